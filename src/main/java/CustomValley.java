@@ -1146,7 +1146,9 @@ public final class CustomValley {
         }
 
         void countMet(Valley v, int p) {
-            Arrays.fill(met, 0);
+            for (int h = 0; h < v.habits; h++) {
+                met[h] = 0;
+            }
             for (int other = 0; other < v.people; other++) {
                 if ((v.meets[p] >> other & 1) != 0) {
                     met[have[other]]++;
