@@ -524,6 +524,12 @@ public final class CustomValley {
         return v.isHabit(own) && v.isHabit(other) ? v.gets[own * MOST_HABITS + other] : NONE;
     }
 
+    private static void fillTo(int[] row, int end, int value) {
+        for (int i = 0; i < end && i < row.length; i++) {
+            row[i] = value;
+        }
+    }
+
     private static boolean areOdds(int q) {
         return q >= LEAST_ODDS && q <= MOST_ODDS;
     }
@@ -1313,9 +1319,9 @@ public final class CustomValley {
             depth = 0;
             opened = 0;
             entered = 0;
-            Arrays.fill(order, 0, v.codes, 0);
-            Arrays.fill(home, 0, v.codes, NONE);
-            Arrays.fill(only, 0, v.codes, OPEN);
+            fillTo(order, v.codes, 0);
+            fillTo(home, v.codes, NONE);
+            fillTo(only, v.codes, OPEN);
             for (int i = 0; i < v.states; i++) {
                 if (order[v.list[i]] != 0) {
                     continue;
@@ -1414,7 +1420,7 @@ public final class CustomValley {
 
         /** The RESTS were numbered as they were found; low is free now to hold their new numbers. */
         void numberByLeast(Valley v) {
-            Arrays.fill(low, 0, v.codes, NONE);
+            fillTo(low, v.codes, NONE);
             int next = 0;
             for (int i = 0; i < v.states; i++) {
                 int old = home[v.list[i]];
@@ -1431,8 +1437,8 @@ public final class CustomValley {
         }
 
         void gather(Valley v) {
-            Arrays.fill(starts, 0, number + 1, 0);
-            Arrays.fill(basins, 0, number, 0);
+            fillTo(starts, number + 1, 0);
+            fillTo(basins, number, 0);
             for (int i = 0; i < v.states; i++) {
                 int s = v.list[i];
                 if (home[s] >= 0) {
@@ -1468,7 +1474,7 @@ public final class CustomValley {
 
         /** The least cost from a STATE to a STATE; what is dearer isn't looked at. */
         int toState(Land land, int target, int from) {
-            Arrays.fill(cost, 0, land.valley.codes, FAR);
+            fillTo(cost, land.valley.codes, FAR);
             cost[target] = 0;
             for (int level = 0; level <= MOST_COST && cost[from] >= level; level++) {
                 settleBack(land, level);
@@ -1504,7 +1510,7 @@ public final class CustomValley {
         }
 
         void seed(Land land, int k) {
-            Arrays.fill(cost, 0, land.valley.codes, FAR);
+            fillTo(cost, land.valley.codes, FAR);
             for (int i = land.rests.starts[k]; i < land.rests.starts[k + 1]; i++) {
                 cost[land.rests.members[i]] = 0;
             }
@@ -1570,11 +1576,11 @@ public final class CustomValley {
 
         /** Behind toState(): the fewest MOVES with the least cost, as far as they are needed. */
         void countMoves(Land land, int target, int from) {
-            Arrays.fill(hops, 0, land.valley.codes, FAR);
+            fillTo(hops, land.valley.codes, FAR);
             hops[target] = 0;
             queue[0] = target;
             queued = 1;
-            for (int i = 0; i < queued && hops[from] == FAR; i++) {
+            for (int i = 0; i < MOST_CODES && i < queued && hops[from] == FAR; i++) {
                 reachBack(land, queue[i]);
             }
         }
@@ -1771,7 +1777,7 @@ public final class CustomValley {
 
         boolean flowOnce(Land land, int q) {
             Valley v = land.valley;
-            Arrays.fill(coming, 0, v.codes, 0);
+            fillTo(coming, v.codes, 0);
             for (int i = 0; i < v.states; i++) {
                 if (held[v.list[i]] > 0) {
                     spread(land, v.list[i], q);

@@ -13,6 +13,9 @@ public final class LargeValleysTest {
         boundsAndGifts("people 4;habits 3;worth 0 0 30;worth 1 1 40;worth 2 1 38;slip 2 2;");
         boundsAndGifts("people 3;habits 4;answer most;keeps 1 3;");
         boundsAndGifts("people 3;habits 4;answer copy;worth 0 0 5;worth 1 2 6;worth 3 3 4;worth 0 3 2;meets 0 1 1 2;");
+        boundsAndGifts("people 6;slip 1 3;meets 3 0 3 1 5 0 5 2;stays;");
+        boundsAndGifts("people 5;worth 0 0 0;meets 1 0 3 0 3 1 3 2 4 1;answer copy;stays;");
+        boundsAndGifts("people 5;meets 0 1;stays;");
         quick();
         Due.finish("LargeValleysTest");
     }

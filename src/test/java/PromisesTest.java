@@ -17,6 +17,9 @@ public final class PromisesTest {
     /** Persons 2, 3 and 4 meet nobody and stay: sixteen rests. */
     private static final String SIXTEEN = "people 5;meets 0 1;stays;";
 
+    private static final String TWELVE = "people 6;slip 1 3;meets 3 0 3 1 5 0 5 2;stays;";
+    private static final String THIRTEEN = "people 5;worth 0 0 0;meets 1 0 3 0 3 1 3 2 4 1;answer copy;stays;";
+
     private static int promise = 0;
 
     public static void main(String[] args) {
@@ -482,6 +485,15 @@ public final class PromisesTest {
         due("fewest(8, 4)", z.fewest(8, 4), 2);
         promise = 16;
         wayIs(z, 8, 5, 4);
+        // the least of the ways goes on without cost first, where a slip at once would do as well
+        CustomValley w = Due.of("people 5;meets 1 0 2 1 3 0 3 1 3 2 4 0 4 1 4 2 4 3;answer most;");
+        due("fewest(28, 10)", w.fewest(28, 10), 1);
+        wayIs(w, 28, 12, 8, 10);
+        CustomValley dearest = Due.of("people 10;stays;worth 0 0 0;worth 1 1 0;slip 0 3;slip 1 3;");
+        due("fewest(0, 1023)", dearest.fewest(0, 1023), 30);
+        wayIs(dearest, 0, 1, 3, 7, 15, 31, 63, 127, 255, 511, 1023);
+        due("coradius(5)", dearest.coradius(5), 30);
+        due("between(1023, 0)", dearest.between(1023, 0), 30);
         due("between does not touch the way", z.between(0, 1), 2);
         due("tree does not touch the way", z.tree(0), 2);
         z.see(0, 0, 0);
@@ -545,6 +557,13 @@ public final class PromisesTest {
         CustomValley many = Due.of(SIXTEEN);
         due("tree(0) of sixteen", many.tree(0), FULL);
         due("tree(16) of sixteen", many.tree(16), RANGE);
+        CustomValley twelve = Due.of(TWELVE);
+        due("rests() of twelve", twelve.rests(), 12);
+        due("tree(0) of twelve", twelve.tree(0), 11);
+        due("treeTo(11) of twelve", twelve.treeTo(11) >= 0 ? 1 : 0, 1);
+        due("tree(12) of twelve", twelve.tree(12), RANGE);
+        due("rests() of thirteen", Due.of(THIRTEEN).rests(), 13);
+        due("tree(0) of thirteen", Due.of(THIRTEEN).tree(0), FULL);
         promise = 19;
         due("treeTo(0) of sixteen", many.treeTo(0), NONE);
         promise = 18;
@@ -560,6 +579,8 @@ public final class PromisesTest {
         due("winners() of three", Due.of(THREE).winners(), 7);
         due("winners() of three, one dear", Due.of("people 2;habits 3;slip 0 2;").winners(), 6);
         due("winners() of sixteen", Due.of(SIXTEEN).winners(), FULL);
+        due("winners() of twelve", Due.of(TWELVE).winners(), 1);
+        due("winners() of thirteen", Due.of(THIRTEEN).winners(), FULL);
         due("winners() of one", Due.of("people 2;keeps 0 1;").winners(), 1);
         // the stag is better, but the hare needs fewer slips
         due("winners(): stag and hare",
@@ -627,6 +648,7 @@ public final class PromisesTest {
         due("bound(2) of seven people", Due.of("people 7;").bound(2), RANGE);
         due("bound(1) of six people", Due.of("people 6;").bound(1), 1);
         due("bound(0), nobody is free", Due.of("people 2;keeps 0 1;keeps 1 1;").bound(0), 0);
+        due("bound(0) of twelve", Due.of(TWELVE).bound(0), 0);
         due("bound(1) of sixteen", Due.of(SIXTEEN).bound(1), 29);
         due("bound(0) by all", Due.of("people 3;answer most;stays;keeps 1 1;meets 0 1 1 2;").bound(0), 5);
         due("told(2) is as it was", x.told(2), 15);
@@ -645,6 +667,8 @@ public final class PromisesTest {
         due("gift(1) of rings", Due.of(RINGS).gift(1), NONE);
         due("gift(1) of seven people", Due.of("people 7;").gift(1), FULL);
         due("gift(2) of seven people", Due.of("people 7;").gift(2), RANGE);
+        due("gift(1) of six people", Due.of("people 6;").gift(1), 1);
+        due("gift(0) of twelve", Due.of(TWELVE).gift(0), 0);
         due("gift(0), nobody is free", Due.of("people 2;keeps 0 1;keeps 1 1;").gift(0), 0);
         due("gift(1) of sixteen", Due.of(SIXTEEN).gift(1), NONE);
         // below 50 each is one slip away from the other; with 50 nobody needs a slip to leave 0
@@ -733,6 +757,7 @@ public final class PromisesTest {
         NaiveValley v = new NaiveValley();
         v.meetAll();
         v.solve();
+        due("run(0, 0, 9, 2)", x.run(0, 0, 9, 2), v.run(0, 0, 9, 2)[0]);
         int[] told = v.run(5, HIGH, 5000, 1000);
         due("run(5, HIGH, 5000, 1000)", x.run(5, HIGH, 5000, 1000), told[0]);
         promise = 31;
