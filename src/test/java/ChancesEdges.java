@@ -106,6 +106,12 @@ final class ChancesEdges extends Edge {
         due("parts(2)", keeper.parts(2), 83333333);
         due("parts(8)", keeper.parts(8), 83333333);
         due("parts(1): no state", keeper.parts(1), NONE);
+        due("parts(0): hers are nobody's", keeper.parts(0), ALL - 3 * 83333333);
+        // one alone is free: she has all
+        CustomValley one = Due.of("people 2;keeps 1 0;");
+        one.flow(1, 1, 4);
+        due("parts(0): she goes back", one.parts(0), 875000000);
+        due("parts(1): half of the slips", one.parts(1), 125000000);
     }
 
     static void p28OfTheseXOverQSlip() {
@@ -154,6 +160,21 @@ final class ChancesEdges extends Edge {
         seven.flow(0, 1, 2);
         due("parts(64)", seven.parts(64), 35714285);
         due("parts(0)", seven.parts(0), ALL - 7 * 35714285);
+    }
+
+    static void p28NoPartIsLost() {
+        term(28, "With that part her MOVE is done; what the cuts leave over stays in the STATE.");
+        // twelve states hold a single part then, less than there are who are free
+        CustomValley x = Due.of("people 6;meets 0 3;stays;");
+        x.flow(0, 17, 500);
+        due("parts(56)", x.parts(56), 1);
+        x.flow(0, 18, 500);
+        long sum = 0;
+        for (int s = 0; s < 64; s++) {
+            due("parts(" + s + ") are not below 0", x.parts(s) >= 0 ? 1 : 0, 1);
+            sum += x.parts(s);
+        }
+        due("all parts", sum, ALL);
     }
 
     static void p28NobodyFree() {
@@ -392,8 +413,6 @@ final class ChancesEdges extends Edge {
         promise(31, "Of the latest run() that told a STATE, what 0: how many of its MOVES were SLIPS, 1: their cost, 2: how "
                 + "many steps ended in a REST");
         CustomValley x = Due.of("people 10;worth 0 0 0;worth 1 1 0;stays;slip 0 3;slip 1 3;");
-        NaiveValley v = new NaiveValley();
-        v.people = 2;
         x.run(0, 7, 5000, 2);
         due("ran(2): each state is a rest", x.ran(2), 5000);
         due("ran(1): each slip costs 3", x.ran(1), 3 * x.ran(0));

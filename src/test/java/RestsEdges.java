@@ -45,6 +45,21 @@ final class RestsEdges extends Edge {
         due("rests(), nothing pays: a ring", Due.of(ALL_RING).rest(0, 1), 1024);
     }
 
+    static void p11ARingThatGoesOneWay() {
+        term(11, "RESTS: the least sets of STATES that no MOVE without slip leaves (a STATE alone, or a RING of several)");
+        // 1 beats 0, 2 beats 1, 0 beats 2: each in turn takes what beats the other's
+        CustomValley x = Due.of("people 2;habits 3;worth 0 0 0;worth 1 1 0;worth 2 2 0;worth 1 0 1;worth 2 1 1;worth 0 2 1;");
+        due("rests()", x.rests(), 1);
+        due("rest(0, 1)", x.rest(0, 1), 6);
+        due("rest(0, 2)", x.rest(0, 2), 9);
+        int[] unlike = {1, 2, 3, 5, 6, 7};
+        for (int i = 0; i < 6; i++) {
+            due("rest(0, 10 + " + i + ")", x.rest(0, 10 + i), unlike[i]);
+            due("restOf(" + unlike[i] + ")", x.restOf(unlike[i]), 0);
+        }
+        due("restOf(0)", x.restOf(0), NONE);
+    }
+
     static void p11NumberedByTheirLeastStates() {
         term(11, "numbered from 0 by their least STATES.");
         CustomValley x = Due.of(UNLIKE);
@@ -93,6 +108,12 @@ final class RestsEdges extends Edge {
         due("rest(0, 2)", unlike.rest(0, 2), sum);
         // (1 1 0) and (0 1 1) come to (0 1 0) alone
         due("rest(0, 2)", unlike.rest(0, 2), 3);
+        // if 0 gets more among the unlike, from (1 1 0) person 1 may go to 0 first, and all comes otherwise
+        CustomValley more = Due.of("people 3;meets 0 1 1 2;worth 0 0 0;worth 0 1 2;worth 1 0 1;worth 1 1 0;stays;");
+        due("rest(0, 0)", more.rest(0, 0), 2);
+        due("rest(0, 2)", more.rest(0, 2), 1);
+        due("rest(1, 0)", more.rest(1, 0), 5);
+        due("rest(1, 2)", more.rest(1, 2), 3);
     }
 
     static void p12ItsStatesRising() {

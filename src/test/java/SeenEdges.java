@@ -299,28 +299,24 @@ final class SeenEdges extends Edge {
 
     static void p37TheLeastSumThenTheLeast() {
         term(37, "LIKELIEST: the answer with the least sum; then the least.");
-        CustomValley x = threeSeen();
-        int least = 0;
-        for (int answer = 1; answer < 3; answer++) {
-            if (x.explained(6, answer) < x.explained(6, least)) {
-                least = answer;
-            }
-        }
-        due("likeliest(6)", x.likeliest(6), least);
+        // all alike: the least
+        likeliest("people 2;", 0, 3, 0, 1, 1, 1);
+        // (2 2 1 0) to (2 2 0 0): person 2 copies the one with 0, who gets most
+        likeliest("people 4;habits 3;worth 0 1 3;stays;", 17, 8, 2, 1, 1, 0);
         // most and copy alike, both better than best: the least of them
-        CustomValley y = Due.of("people 2;worth 0 0 5;worth 0 1 5;worth 1 1 5;");
-        y.see(0, 0, 0);
-        y.see(0, 1, 3);
-        due("explained(0, 0)", y.explained(0, 0), 1);
-        due("explained(0, 1)", y.explained(0, 1), 1);
-        due("likeliest(0): alike", y.likeliest(0), 0);
-        // copy alone explains without a slip that all go to what pays
-        CustomValley z = Due.of("people 3;meets 0 1 1 2;worth 0 0 1;worth 0 1 9;worth 1 0 0;worth 1 1 2;answer most;");
-        z.see(0, 0, 6);
-        z.see(0, 1, 0);
-        int[] sums = {z.explained(0, 0), z.explained(0, 1), z.explained(0, 2)};
-        int best = sums[0] <= sums[1] && sums[0] <= sums[2] ? 0 : sums[1] <= sums[2] ? 1 : 2;
-        due("likeliest(0)", z.likeliest(0), best);
+        likeliest("people 3;habits 3;worth 1 0 3;", 2, 0, 1, 1, 0, 0);
+        // best and copy alike, both better than most
+        likeliest("people 4;worth 1 1 0;", 7, 0, 0, 0, 1, 0);
+    }
+
+    private static void likeliest(String text, int from, int to, int want, int... sums) {
+        CustomValley x = Due.of(text);
+        x.see(0, 0, from);
+        x.see(0, 1, to);
+        for (int answer = 0; answer < 3; answer++) {
+            due("explained(0, " + answer + ") of " + text, x.explained(0, answer), sums[answer]);
+        }
+        due("likeliest(0) of " + text, x.likeliest(0), want);
     }
 
     static void p37NoneExplainsIt() {

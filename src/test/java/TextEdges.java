@@ -190,7 +190,7 @@ final class TextEdges extends Edge {
 
     static void p04NothingOfTheValleyBefore() {
         promise(4, "THE TAPE is a VALLEY: how many clauses");
-        CustomValley x = Due.of("people 5;habits 4;worth 0 0 9;worth 3 2 7;meets 3 4;answer most;stays;keeps 1 2;slip 1 3;");
+        CustomValley x = Due.of("people 5;habits 4;worth 0 0 9;worth 0 1 8;worth 1 0 7;meets 3 4;answer most;stays;keeps 1 2;slip 1 3;");
         x.rests();
         x.winners();
         x.shortly();
@@ -204,6 +204,8 @@ final class TextEdges extends Edge {
             due("told(" + what + ")", x.told(what), fresh.told(what));
         }
         due("rests()", x.rests(), 2);
+        due("rest(0, 2)", x.rest(0, 2), 5);
+        due("rest(1, 2)", x.rest(1, 2), 5);
         due("winners()", x.winners(), 3);
         due("shortly()", x.shortly(), NONE);
         due("bound(1)", x.bound(1), 1);
@@ -212,6 +214,39 @@ final class TextEdges extends Edge {
         due("answers(7, 3)", x.answers(7, 3), 2);
         due("coradius(0)", x.coradius(0), 2);
         due("count(0)", x.count(0), 0);
+    }
+
+    static void p04AllAnswersAreThoseOfANewObject() {
+        promise(4, "THE TAPE is a VALLEY: how many clauses");
+        String[] texts = {"people 3;keeps 2 1;", "people 2;habits 3;slip 1 2;", "people 3;meets 0 1;answer copy;"};
+        for (String text : texts) {
+            CustomValley used = Due.of("people 5;habits 4;worth 0 1 8;meets 3 4 0 1 1 2;answer most;slip 1 3;");
+            used.fewest(0, 1023);
+            used.tree(0);
+            used.flow(1023, 9, 3);
+            used.run(1023, 1, 99, 2);
+            used.bound(1);
+            used.coradius(1);
+            Due.read(used, text);
+            CustomValley fresh = Due.of(text);
+            for (int s = 0; s < 9; s++) {
+                for (int t = 0; t < 9; t++) {
+                    String pair = "(" + s + ", " + t + ") of " + text;
+                    due("fewest" + pair, used.fewest(s, t), fresh.fewest(s, t));
+                    due("way(-1) of fewest" + pair, used.way(-1), fresh.way(-1));
+                    due("way(1) of fewest" + pair, used.way(1), fresh.way(1));
+                }
+                due("restOf(" + s + ") of " + text, used.restOf(s), fresh.restOf(s));
+                due("radius(" + s + ") of " + text, used.radius(s), fresh.radius(s));
+                due("coradius(" + s + ") of " + text, used.coradius(s), fresh.coradius(s));
+                due("tree(" + s + ") of " + text, used.tree(s), fresh.tree(s));
+                due("bound(" + s + ") of " + text, used.bound(s), fresh.bound(s));
+                due("carried(" + s + ", 0) of " + text, used.carried(s, 0), fresh.carried(s, 0));
+                due("flow(" + s + ", 3, 2) of " + text, used.flow(s, 3, 2), fresh.flow(s, 3, 2));
+                due("parts(" + s + ") of " + text, used.parts(s), fresh.parts(s));
+                due("run(" + s + ", 9, 9, 2) of " + text, used.run(s, 9, 9, 2), fresh.run(s, 9, 9, 2));
+            }
+        }
     }
 
     // ---- promise 5
@@ -299,6 +334,10 @@ final class TextEdges extends Edge {
             fault(word.substring(0, word.length() - 1) + " 0 0 0;", SYNTAX, 0);
             fault(word + "s 0 0 0;", SYNTAX, 0);
             fault(word.substring(1) + " 0 0 0;", SYNTAX, 0);
+            for (int i = 0; i < word.length(); i++) {
+                String other = word.substring(0, i) + 'z' + word.substring(i + 1);
+                fault(other + (word.equals("stays") ? ";" : " 0 1 1;"), SYNTAX, 0);
+            }
         }
         fault("answer bes;", SYNTAX, 7);
         fault("answer bests;", SYNTAX, 7);
@@ -633,6 +672,18 @@ final class TextEdges extends Edge {
         fault("slip 0 1;slip 0 1;", TWICE, 14);
         fault("slip 1 3;slip 0 1;slip 1 2;", TWICE, 23);
         well("habits 4;slip 0 1;slip 1 1;slip 2 1;slip 3 1;", 5);
+    }
+
+    static void p05WhatATextBeforeToldIsNotTold() {
+        term(5, "3 TWICE: people, habits, answer, stays again");
+        String text = "people 3;habits 3;worth 0 1 7;worth 2 2 9;meets 0 1 1 2;answer copy;stays;keeps 0 1;slip 2 2;";
+        CustomValley x = new CustomValley();
+        for (int i = 0; i < 3; i++) {
+            due("valley() again", Due.read(x, text), 9);
+            due("valley() with a fault at its end", Due.read(x, text + "stays;"), NONE);
+            due("fault(0)", x.fault(0), TWICE);
+        }
+        due("valley(): people may be told again", Due.read(x, "people 4;habits 2;slip 0 1;"), 3);
     }
 
     static void p05BehindAClauseWithPersonsOrHabits() {

@@ -202,6 +202,13 @@ final class WinsEdges extends Edge {
         due("radius(0) of five", Due.of("people 5;").radius(0), 2);
         due("radius(0) of ten", Due.of("people 10;").radius(0), 5);
         due("radius(1) of rings", Due.of(RINGS).radius(1), 1);
+        // all meet one alone: if she slips, each may follow; if another does, nobody
+        CustomValley first = Due.of("people 4;meets 0 1 0 2 0 3;");
+        due("radius(0), person 0 in the midst", first.radius(0), 1);
+        due("radius(1), person 0 in the midst", first.radius(1), 1);
+        CustomValley last = Due.of("people 4;meets 3 0 3 1 3 2;");
+        due("radius(0), person 3 in the midst", last.radius(0), 1);
+        due("radius(1), person 3 in the midst", last.radius(1), 1);
     }
 
     static void p21NoSuchState() {
@@ -362,6 +369,8 @@ final class WinsEdges extends Edge {
         due("one who meets nobody must be bound herself", Due.of(RINGS).bound(1), 5);
         due("the last alone", Due.of("people 3;meets 0 1;stays;keeps 0 1;").bound(1), 4);
         due("both win: nobody bound is not enough", Due.of("people 2;").bound(0), 1);
+        // persons 0 and 1 would do, a lesser set but two; person 3 whom all meet does alone
+        due("the fewest go ahead of the least set", Due.of("people 4;slip 0 3;meets 0 3 1 3 2 3;").bound(0), 8);
     }
 
     static void p25NotEvenByAll() {
@@ -483,6 +492,22 @@ final class WinsEdges extends Edge {
         due("gift(0) of 32", Due.of("people 6;meets 0 1;stays;slip 1 3;").gift(0), NONE);
         due("gift(0), nobody is free", Due.of(NOBODY).gift(0), 0);
         due("gift(1), nobody is free", Due.of(NOBODY).gift(1), 0);
+    }
+
+    static void p26OneGiftDoesNotChangeTheNext() {
+        promise(26, "GIFT");
+        CustomValley x = Due.of("answer most;slip 1 3;");
+        due("gift(1)", x.gift(1), NONE);
+        due("gift(0) behind it", x.gift(0), 0);
+        due("gift(1) again", x.gift(1), NONE);
+        CustomValley nobody = Due.of(NOBODY);
+        due("gift(0), nobody is free", nobody.gift(0), 0);
+        due("gift(1) behind it", nobody.gift(1), 0);
+        CustomValley both = new CustomValley();
+        due("gift(0)", both.gift(0), 1);
+        due("gift(1) behind it", both.gift(1), 1);
+        due("bound(1) behind both", both.bound(1), 1);
+        due("gift(0) again", both.gift(0), 1);
     }
 
     static void p26AskingChangesNothing() {
