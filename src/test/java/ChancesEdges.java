@@ -251,23 +251,49 @@ final class ChancesEdges extends Edge {
 
     // ---- promise 30
 
+    /** A run from state 6 of the four, as it is gone through in the plainest form. */
+    private static void runIs(CustomValley x, int seed, int steps, int q) {
+        NaiveValley v = new NaiveValley();
+        v.meetAll();
+        v.solve();
+        due("run(6, " + seed + ", " + steps + ", " + q + ")", x.run(6, seed, steps, q), v.run(6, seed, steps, q)[0]);
+    }
+
     static void p30TheStateAtItsEnd() {
-        promise(30, "A RUN from a STATE by a seed (0 .. 2147483647) for so many steps (1 .. 5000) with q (2 .. 1000): the "
-                + "STATE at its end");
+        promise(30, "A RUN from a STATE");
+        promise(30, ": the STATE at its end");
         CustomValley x = new CustomValley();
         due("run(0, 1, 1, 2)", x.run(0, 1, 1, 2), 4);
         due("run(0, 1, 2, 2)", x.run(0, 1, 2, 2), 4);
         due("run(0, 1, 3, 2)", x.run(0, 1, 3, 2), 0);
-        NaiveValley v = new NaiveValley();
-        v.meetAll();
-        v.solve();
+        due("run(15, 1, 3, 2)", x.run(15, 1, 3, 2), 15);
+    }
+
+    static void p30SeedsFromNothingToTheGreatest() {
+        promise(30, "by a seed (0 .. 2147483647)");
+        CustomValley x = new CustomValley();
         for (int seed : new int[] {0, 1, 65535, 65536, HIGH - 1, HIGH}) {
-            for (int steps : new int[] {1, 2, 4999, 5000}) {
-                for (int q : new int[] {2, 3, 999, 1000}) {
-                    int want = v.run(6, seed, steps, q)[0];
-                    due("run(6, " + seed + ", " + steps + ", " + q + ")", x.run(6, seed, steps, q), want);
-                }
-            }
+            runIs(x, seed, 1, 2);
+            runIs(x, seed, 20, 2);
+            runIs(x, seed, 200, 3);
+        }
+    }
+
+    static void p30StepsFromOneTo5000() {
+        promise(30, "for so many steps (1 .. 5000)");
+        CustomValley x = new CustomValley();
+        for (int steps : new int[] {1, 2, 3, 4998, 4999, 5000}) {
+            runIs(x, 7, steps, 2);
+            due("all its moves", x.ran(10) + x.ran(11) + x.ran(12) + x.ran(13), steps);
+        }
+    }
+
+    static void p30QFromTwoTo1000() {
+        promise(30, "with q (2 .. 1000)");
+        CustomValley x = new CustomValley();
+        for (int q : new int[] {2, 3, 999, 1000}) {
+            runIs(x, 5, 300, q);
+            runIs(x, HIGH, 5000, q);
         }
     }
 
@@ -381,46 +407,57 @@ final class ChancesEdges extends Edge {
 
     // ---- promise 31
 
-    static void p31SlipsCostRests() {
-        promise(31, "Of the latest run() that told a STATE, what 0: how many of its MOVES were SLIPS, 1: their cost, 2: how "
-                + "many steps ended in a REST");
+    static void p31TheLatestAlone() {
+        promise(31, "Of the latest run() that told a STATE");
         CustomValley x = Due.of("slip 1 3;");
-        x.run(0, 1, 1, 2);
-        due("ran(0)", x.ran(0), 1);
-        due("ran(1)", x.ran(1), 3);
-        due("ran(2)", x.ran(2), 0);
         x.run(0, 1, 3, 2);
-        due("ran(0)", x.ran(0), 1);
-        due("ran(1)", x.ran(1), 3);
+        x.run(0, 1, 1, 3);
+        due("ran(0)", x.ran(0), 0);
+        due("ran(1)", x.ran(1), 0);
+        due("ran(2)", x.ran(2), 1);
+        due("ran(12)", x.ran(12), 1);
+        due("ran(13)", x.ran(13), 0);
+    }
+
+    static void p31TheirCost() {
+        promise(31, "1: their cost");
+        for (int cost = 1; cost <= 3; cost++) {
+            CustomValley x = Due.of("slip 1 " + cost + ";");
+            x.run(0, 1, 1, 2);
+            due("ran(1) of one slip", x.ran(1), cost);
+            x.run(0, 1, 1, 3);
+            due("ran(1) of none", x.ran(1), 0);
+        }
+        CustomValley dear = Due.of("people 10;worth 0 0 0;worth 1 1 0;stays;slip 0 3;slip 1 3;");
+        dear.run(0, 7, 5000, 2);
+        due("ran(0) of the longest is something", dear.ran(0) > 1000 ? 1 : 0, 1);
+        due("ran(1) of the longest: each costs 3", dear.ran(1), 3 * dear.ran(0));
+    }
+
+    static void p31StepsThatEndedInARest() {
+        promise(31, "2: how many steps ended in a REST");
+        CustomValley x = new CustomValley();
+        x.run(0, 1, 1, 2);
+        due("ran(2): it led out of one", x.ran(2), 0);
+        x.run(0, 1, 3, 2);
         due("ran(2): the third step led back", x.ran(2), 1);
         x.run(0, 1, 1, 3);
-        due("ran(0): the latest alone", x.ran(0), 0);
-        due("ran(1): the latest alone", x.ran(1), 0);
-        due("ran(2): it stayed in a rest", x.ran(2), 1);
+        due("ran(2): it stayed in one", x.ran(2), 1);
+        CustomValley all = Due.of("people 10;worth 0 0 0;worth 1 1 0;stays;");
+        all.run(0, 7, 5000, 2);
+        due("ran(2): each state is a rest", all.ran(2), 5000);
+        CustomValley ring = Due.of("people 10;worth 0 0 0;worth 1 1 0;");
+        ring.run(0, 7, 5000, 2);
+        due("ran(2): each state is in the ring", ring.ran(2), 5000);
     }
 
     static void p31WhatIsASlip() {
-        promise(31, "Of the latest run() that told a STATE, what 0: how many of its MOVES were SLIPS, 1: their cost, 2: how "
-                + "many steps ended in a REST");
+        promise(31, "what 0: how many of its MOVES were SLIPS");
         CustomValley x = new CustomValley();
         due("run(15, 1, 1, 2): she slips to 1, her answer", x.run(15, 1, 1, 2), 15);
         due("ran(0)", x.ran(0), 0);
         due("run(4, 1, 1, 2): she slips to 1, her own, where she would answer 0", x.run(4, 1, 1, 2), 4);
         due("ran(0)", x.ran(0), 1);
-    }
-
-    static void p31AllStepsOfTheLongest() {
-        promise(31, "Of the latest run() that told a STATE, what 0: how many of its MOVES were SLIPS, 1: their cost, 2: how "
-                + "many steps ended in a REST");
-        CustomValley x = Due.of("people 10;worth 0 0 0;worth 1 1 0;stays;slip 0 3;slip 1 3;");
-        x.run(0, 7, 5000, 2);
-        due("ran(2): each state is a rest", x.ran(2), 5000);
-        due("ran(1): each slip costs 3", x.ran(1), 3 * x.ran(0));
-        int sum = 0;
-        for (int p = 0; p < 10; p++) {
-            sum += x.ran(10 + p);
-        }
-        due("all moves", sum, 5000);
     }
 
     static void p31MovesOfEach() {
@@ -431,6 +468,13 @@ final class ChancesEdges extends Edge {
         for (int p = 0; p < 4; p++) {
             due("ran(10 + " + p + ")", x.ran(10 + p), moves[p]);
         }
+        CustomValley ten = Due.of("people 10;");
+        ten.run(0, 7, 5000, 2);
+        int sum = 0;
+        for (int p = 0; p < 10; p++) {
+            sum += ten.ran(10 + p);
+        }
+        due("all moves of the longest", sum, 5000);
         CustomValley keeper = Due.of(KEEPER);
         keeper.run(1, 1, 100, 2);
         due("ran(10): she keeps hers", keeper.ran(10), 0);
@@ -438,8 +482,7 @@ final class ChancesEdges extends Edge {
     }
 
     static void p31ARefusedRunLeavesIt() {
-        promise(31, "Of the latest run() that told a STATE, what 0: how many of its MOVES were SLIPS, 1: their cost, 2: how "
-                + "many steps ended in a REST");
+        promise(31, "Of the latest run() that told a STATE");
         CustomValley x = new CustomValley();
         x.run(0, 1, 3, 2);
         x.run(16, 1, 1, 2);
@@ -491,8 +534,7 @@ final class ChancesEdges extends Edge {
     }
 
     static void p32TheTapeIsTheRow() {
-        term(32, "JUDGED: a row of MOVES on THE TAPE (bytes two by two: the person and 48, the HABIT and 48; at most 60 "
-                + "MOVES)");
+        term(32, "JUDGED: a row of MOVES on THE TAPE (bytes two by two: the person and 48, the HABIT and 48");
         CustomValley ten = Due.of("people 10;");
         due("judge(0): person 9", judge(ten, "91", 0), 1);
         due("judged(2)", ten.judged(2), 512);
@@ -507,8 +549,22 @@ final class ChancesEdges extends Edge {
         due("judge(0): person 5", judge(four, "53", 0), 0);
     }
 
+    static void p32SixtyMovesAtMost() {
+        term(32, "at most 60 MOVES)");
+        CustomValley x = Due.of("people 10;");
+        StringBuilder row = new StringBuilder();
+        for (int i = 0; i < 60; i++) {
+            row.append((char) ('0' + i % 10)).append((char) ('1' - i / 10 % 2));
+        }
+        due("judge(0) of sixty", judge(x, row.toString(), 0), 60);
+        due("judged(2): ten times to 1, to 0, and at last to 0", x.judged(2), 0);
+        due("judge(0) of fifty", judge(x, row.substring(0, 100), 0), 50);
+        due("judged(2): at last to 1", x.judged(2), 1023);
+        due("judge(0) of 61", judge(x, row + "01", 0), NONE);
+    }
+
     static void p32AnyOtherByteIsNoMove() {
-        term(32, "the first that isn't one; SLIPS, their cost, the STATE at its end.");
+        term(32, "the first that isn't one");
         CustomValley x = new CustomValley();
         for (int b = 0; b < 256; b++) {
             due("judge(0), person " + b, judge(x, (char) b + "0", 0), b >= 48 && b < 52 ? 1 : 0);
@@ -565,8 +621,22 @@ final class ChancesEdges extends Edge {
         due("judged(3)", x.judged(3), all);
     }
 
+    static void p33TheLatestThatToldANumber() {
+        promise(33, "Of the latest judge() that told a number");
+        CustomValley x = new CustomValley();
+        judge(x, "0111", 0);
+        judge(x, "31", 7);
+        judgedIs(x, 0, 0, 15, 1);
+        judge(x, "0", 0);
+        judge(x, "01", 16);
+        judge(x, "00".repeat(61), 0);
+        judgedIs(x, 0, 0, 15, 1);
+        judge(x, "41", 2);
+        judgedIs(x, 0, 0, 2, 0);
+    }
+
     static void p33SlipsAndCost() {
-        promise(33, "Of the latest judge() that told a number, what 0: SLIPS, 1: their cost");
+        promise(33, "what 0: SLIPS, 1: their cost");
         CustomValley x = Due.of("slip 1 3;slip 0 2;");
         judge(x, "0111", 0);
         judgedIs(x, 2, 6, 3, 1);
@@ -592,6 +662,7 @@ final class ChancesEdges extends Edge {
     }
 
     static void p33TheStateBehindThoseThatAreWell() {
+        term(33, "SLIPS, their cost, the STATE at its end.");
         promise(33, "2: the STATE at its end (behind those that are well)");
         CustomValley x = new CustomValley();
         judge(x, "0111412131", 0);

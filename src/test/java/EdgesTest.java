@@ -25,7 +25,7 @@ public final class EdgesTest {
             }
         }
         Edge.close();
-        Due.due("there are tests", tests > 150 ? 1 : 0, 1);
+        Due.due("there are tests", tests > 250 ? 1 : 0, 1);
         Due.finish("EdgesTest (" + tests + " tests)");
     }
 

@@ -34,7 +34,7 @@ final class RestsEdges extends Edge {
     }
 
     static void p11TheLeastSetsThatNoMoveLeaves() {
-        term(11, "RESTS: the least sets of STATES that no MOVE without slip leaves (a STATE alone, or a RING of several)");
+        term(11, "RESTS: the least sets of STATES that no MOVE without slip leaves");
         CustomValley x = Due.of(RINGS);
         due("rests(), two rings", x.rests(), 2);
         due("rest(0, 1)", x.rest(0, 1), 2);
@@ -46,9 +46,10 @@ final class RestsEdges extends Edge {
     }
 
     static void p11ARingThatGoesOneWay() {
-        term(11, "RESTS: the least sets of STATES that no MOVE without slip leaves (a STATE alone, or a RING of several)");
+        term(11, "(a STATE alone, or a RING of several)");
         // 1 beats 0, 2 beats 1, 0 beats 2: each in turn takes what beats the other's
-        CustomValley x = Due.of("people 2;habits 3;worth 0 0 0;worth 1 1 0;worth 2 2 0;worth 1 0 1;worth 2 1 1;worth 0 2 1;");
+        CustomValley x = Due.of("people 2;habits 3;worth 0 0 0;worth 1 1 0;worth 2 2 0;"
+                + "worth 1 0 1;worth 2 1 1;worth 0 2 1;");
         due("rests()", x.rests(), 1);
         due("rest(0, 1)", x.rest(0, 1), 6);
         due("rest(0, 2)", x.rest(0, 2), 9);
@@ -77,20 +78,28 @@ final class RestsEdges extends Edge {
 
     // ---- promise 12
 
-    static void p12LeastStateSizeBasin() {
-        promise(12, "Of REST k, what 0: its least STATE, 1: how many STATES it has, 2: how many its BASIN has");
+    static void p12ItsLeastState() {
+        promise(12, "Of REST k, what 0: its least STATE");
         CustomValley rings = Due.of(RINGS);
-        int[][] want = {{0, 2, 2}, {3, 2, 2}};
-        for (int k = 0; k < 2; k++) {
-            for (int what = 0; what < 3; what++) {
-                due("rest(" + k + ", " + what + ")", rings.rest(k, what), want[k][what]);
-            }
-        }
-        CustomValley all = Due.of(ALL_REST);
-        due("rest(1023, 0)", all.rest(1023, 0), 1023);
-        due("rest(1023, 1)", all.rest(1023, 1), 1);
-        due("rest(1023, 2)", all.rest(1023, 2), 1);
-        due("rest(0, 2): a ring of all", Due.of(ALL_RING).rest(0, 2), 1024);
+        due("rest(0, 0)", rings.rest(0, 0), 0);
+        due("rest(1, 0)", rings.rest(1, 0), 3);
+        due("rest(1023, 0)", Due.of(ALL_REST).rest(1023, 0), 1023);
+        due("rest(0, 0), nobody is free", Due.of(NOBODY).rest(0, 0), 2);
+    }
+
+    static void p12HowManyStatesItHas() {
+        promise(12, "1: how many STATES it has");
+        due("rest(0, 1), a state alone", new CustomValley().rest(0, 1), 1);
+        due("rest(1, 1), a ring", Due.of(RINGS).rest(1, 1), 2);
+        due("rest(0, 1), all states", Due.of(ALL_RING).rest(0, 1), 1024);
+        due("rest(1023, 1), each state", Due.of(ALL_REST).rest(1023, 1), 1);
+    }
+
+    static void p12HowManyItsBasinHas() {
+        promise(12, "2: how many its BASIN has");
+        due("rest(0, 2), a ring", Due.of(RINGS).rest(0, 2), 2);
+        due("rest(1023, 2), itself", Due.of(ALL_REST).rest(1023, 2), 1);
+        due("rest(0, 2), all states", Due.of(ALL_RING).rest(0, 2), 1024);
     }
 
     static void p12BasinAreThoseThatComeToItAlone() {

@@ -19,7 +19,7 @@ final class SeenEdges extends Edge {
     }
 
     static void p34NoSuchStep() {
-        promise(34, "RANGE: no such STEP, STATE, a DAY not above those SEEN");
+        promise(34, "RANGE: no such STEP");
         CustomValley x = busy();
         for (int step : new int[] {LOW, -1, 0, 2, 1000, 1001, HIGH}) {
             refused(x, "see(" + step + ", 30, 0), the latest is 3", () -> x.see(step, 30, 0), RANGE);
@@ -35,7 +35,7 @@ final class SeenEdges extends Edge {
     }
 
     static void p34NoSuchState() {
-        promise(34, "RANGE: no such STEP, STATE, a DAY not above those SEEN");
+        promise(34, "RANGE: no such STEP, STATE");
         CustomValley x = busy();
         for (int s : NO_STATES) {
             refused(x, "see(3, 30, " + s + ")", () -> x.see(3, 30, s), RANGE);
@@ -47,7 +47,7 @@ final class SeenEdges extends Edge {
     }
 
     static void p34ADayNotAbove() {
-        promise(34, "RANGE: no such STEP, STATE, a DAY not above those SEEN");
+        promise(34, "a DAY not above those SEEN");
         CustomValley x = busy();
         for (int day : new int[] {LOW, -1, 0, 10, 15, 19, 20, 1000, HIGH}) {
             refused(x, "see(3, " + day + ", 0), the last was 20", () -> x.see(3, day, 0), RANGE);
@@ -62,7 +62,7 @@ final class SeenEdges extends Edge {
     }
 
     static void p34ARefusedStepIsNotTheLatest() {
-        promise(34, "RANGE: no such STEP, STATE, a DAY not above those SEEN");
+        promise(34, "RANGE: no such STEP");
         CustomValley x = new CustomValley();
         x.see(5, 5, 0);
         x.see(9, 5, 0);
@@ -86,15 +86,40 @@ final class SeenEdges extends Edge {
         due("right(0, 19, 1): the step of a refused one is not the latest", x.right(0, 19, 1), 1);
     }
 
-    static void p34RisingDaysAndSteps() {
-        term(34, "SEEN, at most 20, numbered from 0: a STATE at a DAY (0 .. 999, rising), told at a STEP of telling (0 .. "
-                + "999, never falling)");
+    static void p34AtMostTwentyFromNought() {
+        term(34, "SEEN, at most 20, numbered from 0");
         CustomValley x = new CustomValley();
+        due("the first", x.see(0, 0, 0), 0);
+        for (int i = 1; i < 19; i++) {
+            x.see(0, i, 0);
+        }
+        due("the twentieth", x.see(0, 19, 0), 19);
+        due("the 21st", x.see(0, 20, 0), FULL);
+        due("count(1)", x.count(1), 20);
+    }
+
+    static void p34RisingDays() {
+        term(34, "a STATE at a DAY (0 .. 999, rising)");
+        CustomValley x = new CustomValley();
+        due("see(0, -1, 15)", x.see(0, -1, 15), RANGE);
+        due("see(0, 0, 15)", x.see(0, 0, 15), 0);
+        due("see(0, 0, 15): the same day", x.see(0, 0, 15), RANGE);
+        due("see(0, 1, 15)", x.see(0, 1, 15), 1);
+        due("see(0, 999, 15)", x.see(0, 999, 15), 2);
+        due("see(0, 1000, 15)", x.see(0, 1000, 15), RANGE);
+        due("see(0, 998, 15): the day falls", x.see(0, 998, 15), RANGE);
+    }
+
+    static void p34StepsThatNeverFall() {
+        term(34, "told at a STEP of telling (0 .. 999, never falling)");
+        CustomValley x = new CustomValley();
+        due("see(-1, 0, 15)", x.see(-1, 0, 15), RANGE);
         due("see(0, 0, 15)", x.see(0, 0, 15), 0);
         due("see(0, 1, 15): the same step", x.see(0, 1, 15), 1);
         due("see(999, 2, 15)", x.see(999, 2, 15), 2);
-        due("see(0, 3, 15): the step falls", x.see(0, 3, 15), RANGE);
-        due("see(999, 999, 15)", x.see(999, 999, 15), 3);
+        due("see(998, 3, 15): the step falls", x.see(998, 3, 15), RANGE);
+        due("see(1000, 3, 15)", x.see(1000, 3, 15), RANGE);
+        due("see(999, 3, 15)", x.see(999, 3, 15), 3);
     }
 
     // ---- promise 35
@@ -205,9 +230,8 @@ final class SeenEdges extends Edge {
         due("told(3) is as it was", x.told(3), 0);
     }
 
-    static void p36TheSumByRisingDays() {
-        term(36, "EXPLAINED as known at a STEP, by an answer (0 best, 1 most, 2 copy; stays as told): the sum of FEWEST from "
-                + "each SEEN STATE, by rising DAYS, to the next.");
+    static void p36StaysAsTold() {
+        term(36, "EXPLAINED as known at a STEP, by an answer (0 best, 1 most, 2 copy; stays as told)");
         // she who meets none is free to go by best and most, but copies herself
         CustomValley goes = Due.of("people 3;meets 0 1;slip 1 2;");
         CustomValley stays = Due.of("people 3;meets 0 1;slip 1 2;stays;");
@@ -225,8 +249,7 @@ final class SeenEdges extends Edge {
     }
 
     static void p36OneThatIsNotKnownYetIsLeftOut() {
-        term(36, "EXPLAINED as known at a STEP, by an answer (0 best, 1 most, 2 copy; stays as told): the sum of FEWEST from "
-                + "each SEEN STATE, by rising DAYS, to the next.");
+        term(36, "the sum of FEWEST from each SEEN STATE, by rising DAYS, to the next.");
         CustomValley x = new CustomValley();
         x.see(0, 0, 0);
         x.see(3, 1, 15);

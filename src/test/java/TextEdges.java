@@ -190,7 +190,8 @@ final class TextEdges extends Edge {
 
     static void p04NothingOfTheValleyBefore() {
         promise(4, "THE TAPE is a VALLEY: how many clauses");
-        CustomValley x = Due.of("people 5;habits 4;worth 0 0 9;worth 0 1 8;worth 1 0 7;meets 3 4;answer most;stays;keeps 1 2;slip 1 3;");
+        CustomValley x = Due.of("people 5;habits 4;worth 0 0 9;worth 0 1 8;worth 1 0 7;meets 3 4;answer most;stays;"
+                + "keeps 1 2;slip 1 3;");
         x.rests();
         x.winners();
         x.shortly();
@@ -529,8 +530,8 @@ final class TextEdges extends Edge {
     }
 
     static void p05PeopleAndHabitsStandAhead() {
-        term(5, "people and habits must stand ahead of all clauses with persons or HABITS (else they are as untold, and "
-                + "can't be told any more).");
+        term(5, "people and habits must stand ahead of all clauses with persons or HABITS");
+        term(5, "(else they are as untold, and can't be told any more).");
         well("stays;answer copy;habits 3;people 3;worth 2 2 5;", 5);
         well("people 3;stays;answer copy;habits 3;keeps 2 2;", 5);
         fault("people 3;slip 0 1;habits 3;", LATE, 18);

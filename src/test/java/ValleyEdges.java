@@ -33,15 +33,22 @@ final class ValleyEdges extends Edge {
         due("told(2)", Due.of("meets 0 1;").told(2), 15);
     }
 
-    static void p06AnswerAndStays() {
-        promise(6, "3: the answer (0 .. 2), 4: 1 if stays");
+    static void p06TheAnswer() {
+        promise(6, "3: the answer (0 .. 2)");
+        due("told(3), untold", new CustomValley().told(3), 0);
         String[] texts = {"answer best;", "answer most;", "answer copy;"};
         for (int i = 0; i < 3; i++) {
-            due("told(3)", Due.of(texts[i]).told(3), i);
-            due("told(4)", Due.of(texts[i]).told(4), 0);
-            due("told(3)", Due.of(texts[i] + "stays;").told(3), i);
-            due("told(4)", Due.of(texts[i] + "stays;").told(4), 1);
+            due("told(3) of " + texts[i], Due.of(texts[i]).told(3), i);
+            due("told(3) of " + texts[i] + " and stays", Due.of(texts[i] + "stays;").told(3), i);
         }
+    }
+
+    static void p06IfStays() {
+        promise(6, "4: 1 if stays");
+        due("told(4), untold", new CustomValley().told(4), 0);
+        due("told(4)", Due.of("stays;").told(4), 1);
+        due("told(4)", Due.of("answer copy;").told(4), 0);
+        due("told(4)", Due.of("answer copy;stays;").told(4), 1);
     }
 
     static void p06HowManyStates() {
@@ -147,8 +154,8 @@ final class ValleyEdges extends Edge {
     }
 
     static void p07HowAStateIsWritten() {
-        term(7, "A STATE: who has which HABIT: the HABIT of person 0 and habits times (that of person 1 and habits times "
-                + "(..))");
+        term(7, "A STATE: who has which HABIT");
+        term(7, ": the HABIT of person 0 and habits times (that of person 1 and habits times (..))");
         CustomValley x = Due.of("people 5;habits 4;");
         int[] have = {3, 0, 2, 1, 3};
         int s = 3 + 4 * (0 + 4 * (2 + 4 * (1 + 4 * 3)));
@@ -299,7 +306,8 @@ final class ValleyEdges extends Edge {
 
     static void p09Copy() {
         term(9, "copy: the HABITS of those with the greatest WORTH among herself and whom she meets.");
-        CustomValley x = Due.of("people 4;answer copy;meets 0 1 1 2 2 3;worth 0 0 1;worth 0 1 5;worth 1 0 2;worth 1 1 3;");
+        CustomValley x = Due.of("people 4;answer copy;meets 0 1 1 2 2 3;"
+                + "worth 0 0 1;worth 0 1 5;worth 1 0 2;worth 1 1 3;");
         // state 6: habits 0 1 1 0, worths 5, 5, 5, 5
         due("answers(6, 0): alike", x.answers(6, 0), 3);
         due("answers(6, 1): alike", x.answers(6, 1), 3);

@@ -28,8 +28,8 @@ final class WinsEdges extends Edge {
     }
 
     static void p18TheLeastSumOfAllTrees() {
-        term(18, "TREE of a REST (the root): each other REST has one to which it goes on, so that all come to the root: the "
-                + "least sum of FEWEST");
+        term(18, "TREE of a REST (the root): each other REST has one to which it goes on");
+        term(18, ", so that all come to the root: the least sum of FEWEST");
         // straight to the root costs 3 from each; through a neighbour less
         CustomValley x = Due.of("people 4;meets 0 1;stays;slip 1 3;");
         int n = x.rests();
@@ -305,26 +305,46 @@ final class WinsEdges extends Edge {
         due("carried(1, 0), all are needed", Due.of("people 3;meets 0 1 1 2;").carried(1, 0), 7);
     }
 
-    static void p24TheFewestThenTheLeastSet() {
-        term(24, "CARRIED: the fewest persons who must have HABIT h, all other FREE ones HABIT g, so that the STATE comes to "
-                + "that alone in which all FREE have h; of as many the least set (bits).");
-        due("two of a line", Due.of("people 4;meets 0 1 1 2 2 3;worth 1 1 9;").carried(1, 0), 3);
-        due("two of the end of a line", Due.of("people 4;meets 3 2 2 1;worth 1 1 9;stays;").carried(1, 0), 7);
-        due("one in the midst", Due.of("people 3;meets 0 2 1 2;worth 1 1 9;worth 1 0 1;").carried(1, 0), 0);
-        // four of six alike, and not a set with less bits that is greater
-        due("carried(1, 0) of six", Due.of("people 6;").carried(1, 0), 15);
-        // three habits: those who have neither h nor g are none
-        due("carried(2, 1)", Due.of("people 4;habits 3;").carried(2, 1), 7);
+    static void p24TheFewest() {
+        term(24, "CARRIED: the fewest persons who must have HABIT h");
+        // it pays always: nobody must have it
+        due("nobody", Due.of("worth 1 0 9;worth 1 1 9;").carried(1, 0), 0);
+        due("two who meet in a line", Due.of("people 4;meets 0 1 1 2 2 3;worth 1 1 9;").carried(1, 0), 3);
+        // alone she whom all meet may turn back, and so may all the others
+        due("one whom all meet and one of these", Due.of("people 4;meets 0 3 1 3 2 3;worth 1 1 9;").carried(1, 0), 9);
+        due("four of six", Due.of("people 6;").carried(1, 0), 15);
+        due("all", Due.of("people 3;meets 0 1 1 2;").carried(1, 0), 7);
+    }
+
+    static void p24AllOthersHaveG() {
+        term(24, "all other FREE ones HABIT g, so that the STATE comes to that alone in which all FREE have h");
+        // those with 1 turn to 2 by themselves, those with 0 never
+        CustomValley x = Due.of("people 2;habits 3;worth 0 0 3;worth 2 1 2;");
+        due("carried(2, 1)", x.carried(2, 1), 0);
+        due("carried(2, 0)", x.carried(2, 0), 3);
+        due("carried(2, 1) of four", Due.of("people 4;habits 3;").carried(2, 1), 7);
+    }
+
+    static void p24TheLeastSet() {
+        term(24, "of as many the least set (bits).");
+        due("any three of four", new CustomValley().carried(1, 0), 7);
+        due("any two who meet", Due.of("people 4;meets 0 1 1 2 2 3;worth 1 1 9;").carried(1, 0), 3);
+        due("any two of those who are free", Due.of("keeps 0 1;").carried(1, 0), 6);
     }
 
     static void p24FreeOnesAlone() {
-        term(24, "(FREE ones alone are counted; it must be a REST by itself.)");
+        term(24, "(FREE ones alone are counted");
         due("one who keeps it helps", Due.of("keeps 0 1;").carried(1, 0), 6);
         due("one who keeps another is in the way", Due.of("keeps 0 0;").carried(1, 0), 14);
         due("nobody is free", Due.of(NOBODY).carried(1, 0), 0);
         due("nobody is free", Due.of(NOBODY).carried(0, 1), 0);
-        due("a ring is no rest by itself", Due.of(RINGS).carried(1, 0), NONE);
+    }
+
+    static void p24ARestByItself() {
+        term(24, "it must be a REST by itself.)");
+        due("a ring is none", Due.of(RINGS).carried(1, 0), NONE);
         due("but with stays it is", Due.of(RINGS + "stays;").carried(1, 0), 7);
+        due("a state that is in no rest", Due.of("worth 0 0 0;worth 0 1 0;worth 1 0 1;").carried(0, 1), NONE);
     }
 
     static void p24NotEvenIfAllHaveIt() {
@@ -362,15 +382,27 @@ final class WinsEdges extends Edge {
         due("bound(0), it wins anyway", Due.of("slip 1 3;").bound(0), 0);
     }
 
-    static void p25TheFewestThenTheLeastSet() {
-        term(25, "BOUND: the fewest FREE persons who must keep HABIT h, so that all STATES of all WINNERS have h for all who "
-                + "were FREE; of as many the least set.");
+    static void p25TheFewest() {
+        term(25, "BOUND: the fewest FREE persons who must keep HABIT h");
         due("one of each that meet", Due.of("people 4;meets 0 1 2 3;").bound(1), 5);
-        due("one who meets nobody must be bound herself", Due.of(RINGS).bound(1), 5);
         due("the last alone", Due.of("people 3;meets 0 1;stays;keeps 0 1;").bound(1), 4);
-        due("both win: nobody bound is not enough", Due.of("people 2;").bound(0), 1);
         // persons 0 and 1 would do, a lesser set but two; person 3 whom all meet does alone
         due("the fewest go ahead of the least set", Due.of("people 4;slip 0 3;meets 0 3 1 3 2 3;").bound(0), 8);
+    }
+
+    static void p25AllStatesOfAllWinners() {
+        term(25, "so that all STATES of all WINNERS have h for all who were FREE");
+        due("both win: nobody bound is not enough", Due.of("people 2;").bound(0), 1);
+        due("a ring: she who meets nobody must be bound herself", Due.of(RINGS).bound(1), 5);
+        due("one who keeps another needn't have it", Due.of("people 2;keeps 0 0;").bound(0), 0);
+        due("one who keeps another is not asked", Due.of("people 2;keeps 0 0;").bound(1), 2);
+    }
+
+    static void p25TheLeastSet() {
+        term(25, "; of as many the least set.");
+        due("any one of four", new CustomValley().bound(1), 1);
+        due("any two of four", Due.of("slip 1 3;").bound(1), 3);
+        due("any one of those who are free", Due.of("people 5;keeps 0 0;slip 0 3;slip 1 3;").bound(1) & 1, 0);
     }
 
     static void p25NotEvenByAll() {
@@ -401,11 +433,17 @@ final class WinsEdges extends Edge {
         due("bound(1) of six", Due.of("people 6;").bound(1), 1);
         due("bound(1) of seven", Due.of("people 7;").bound(1), FULL);
         due("bound(1) of ten", Due.of("people 10;").bound(1), FULL);
-        due("bound(0) of seven, five keep", Due.of("people 7;keeps 0 0;keeps 1 0;keeps 2 0;keeps 3 0;keeps 4 0;").bound(0), FULL);
+        due("bound(0) of seven, three keep", Due.of("people 7;keeps 0 0;keeps 1 0;keeps 2 0;").bound(0), FULL);
     }
 
-    static void p25AtMostSixPeopleTwelveRests() {
-        term(25, "(Both for at most 6 people; with more than 12 RESTS it isn't so. Nobody FREE: it is so.)");
+    static void p25AtMostSixPeople() {
+        term(25, "(Both for at most 6 people");
+        due("bound(0) of six", Due.of("people 6;").bound(0), 1);
+        due("bound(0) of seven", Due.of("people 7;").bound(0), FULL);
+    }
+
+    static void p25MoreThanTwelveRests() {
+        term(25, "with more than 12 RESTS it isn't so.");
         CustomValley twelve = Due.of(TWELVE_ONE_WINS);
         due("rests()", twelve.rests(), 12);
         due("bound(0) of twelve", twelve.bound(0), 0);
@@ -413,10 +451,14 @@ final class WinsEdges extends Edge {
         CustomValley thirteen = Due.of(THIRTEEN);
         due("rests()", thirteen.rests(), 13);
         due("bound(1) of thirteen", thirteen.bound(1), 1);
-        CustomValley sixteen = Due.of(SIXTEEN + "slip 1 3;");
-        due("bound(0) of sixteen", sixteen.bound(0), 1);
-        due("bound(0), nobody is free", Due.of(NOBODY).bound(0), 0);
-        due("bound(1), nobody is free", Due.of(NOBODY).bound(1), 0);
+        due("bound(0) of sixteen", Due.of(SIXTEEN + "slip 1 3;").bound(0), 1);
+    }
+
+    static void p25NobodyFree() {
+        term(25, "Nobody FREE: it is so.)");
+        due("bound(0)", Due.of(NOBODY).bound(0), 0);
+        due("bound(1)", Due.of(NOBODY).bound(1), 0);
+        due("bound(2): nobody has it", Due.of("people 2;habits 3;keeps 0 0;keeps 1 1;").bound(2), 0);
     }
 
     static void p25AskingChangesNothing() {
@@ -440,8 +482,7 @@ final class WinsEdges extends Edge {
     }
 
     static void p26FromNothingTo99() {
-        term(26, "GIFT: the least number 0 .. 99 that HABIT h must get besides at each meeting, so that all STATES of all "
-                + "WINNERS have h for all FREE.");
+        term(26, "GIFT: the least number 0 .. 99 that HABIT h must get besides at each meeting");
         due("gift(1), the greatest", Due.of("people 2;worth 0 0 98;worth 0 1 98;worth 1 1 0;").gift(1), 99);
         due("gift(1), just too great", Due.of("people 2;worth 0 0 99;worth 0 1 99;worth 1 1 0;").gift(1), NONE);
         due("gift(1), none is needed", Due.of("people 2;worth 1 1 2;worth 1 0 1;").gift(1), 0);
@@ -449,6 +490,14 @@ final class WinsEdges extends Edge {
         due("gift(1) at each meeting", Due.of("people 2;worth 0 0 50;worth 0 1 60;worth 1 1 0;").gift(1), 61);
         // 99 and 99: a worth may be above 99 then
         due("gift(1) above 99", Due.of("people 2;worth 0 0 99;worth 0 1 99;worth 1 0 99;worth 1 1 99;").gift(1), 1);
+    }
+
+    static void p26AllStatesOfAllWinners() {
+        term(26, ", so that all STATES of all WINNERS have h for all FREE.");
+        due("both win with nothing", Due.of("people 2;").gift(0), 1);
+        // as good as the other: a ring of both, until it is better
+        due("a ring wins with 5", Due.of("people 2;worth 0 0 5;worth 0 1 5;worth 1 1 0;").gift(1), 6);
+        due("one who keeps another needn't have it", Due.of("people 2;keeps 1 0;worth 1 0 2;").gift(1), 0);
     }
 
     static void p26NoneIsEnough() {
@@ -478,20 +527,30 @@ final class WinsEdges extends Edge {
         due("gift(1) of ten", Due.of("people 10;").gift(1), FULL);
     }
 
-    static void p26AtMostSixPeopleTwelveRests() {
-        term(26, "(Both for at most 6 people; with more than 12 RESTS it isn't so. Nobody FREE: it is so.)");
+    static void p26AtMostSixPeople() {
+        term(26, "(Both for at most 6 people");
+        due("gift(0) of six", Due.of("people 6;").gift(0), 1);
+        due("gift(0) of seven", Due.of("people 7;").gift(0), FULL);
+    }
+
+    static void p26MoreThanTwelveRests() {
+        term(26, "with more than 12 RESTS it isn't so.");
         due("gift(0) of twelve", Due.of(TWELVE_ONE_WINS).gift(0), 0);
         // with 1 habit 0 wins alone among thirteen, with 2 there are fewer
-        CustomValley x = Due.of("people 4;habits 3;worth 1 0 1;answer copy;stays;");
-        due("rests()", x.rests(), 15);
-        due("rests() with 1", Due.of("people 4;habits 3;worth 1 0 1;answer copy;stays;worth 0 0 2;worth 0 1 1;worth 0 2 1;")
-                .rests(), 13);
-        due("gift(0)", x.gift(0), 2);
+        String text = "people 4;habits 3;worth 1 0 1;answer copy;stays;";
+        due("rests()", Due.of(text).rests(), 15);
+        due("rests() with 1", Due.of(text + "worth 0 0 2;worth 0 1 1;worth 0 2 1;").rests(), 13);
+        due("gift(0)", Due.of(text).gift(0), 2);
         // 0 wins alone among sixteen, and with 2 there are eight; of 32 there are always sixteen
         due("gift(0) of sixteen", Due.of(SIXTEEN + "slip 1 3;").gift(0), 2);
         due("gift(0) of 32", Due.of("people 6;meets 0 1;stays;slip 1 3;").gift(0), NONE);
-        due("gift(0), nobody is free", Due.of(NOBODY).gift(0), 0);
-        due("gift(1), nobody is free", Due.of(NOBODY).gift(1), 0);
+    }
+
+    static void p26NobodyFree() {
+        term(26, "Nobody FREE: it is so.)");
+        due("gift(0)", Due.of(NOBODY).gift(0), 0);
+        due("gift(1)", Due.of(NOBODY).gift(1), 0);
+        due("gift(2): nobody has it", Due.of("people 2;habits 3;keeps 0 0;keeps 1 1;").gift(2), 0);
     }
 
     static void p26OneGiftDoesNotChangeTheNext() {
