@@ -125,6 +125,18 @@ final class RestsEdges extends Edge {
         due("rest(1, 2)", more.rest(1, 2), 3);
     }
 
+    static void p12BasinWithStatesThatComeToOneAnother() {
+        term(12, "BASIN of a REST: the STATES that come to it alone.");
+        // (1 1 1) leads to those with one 0 and these back to it, but from these all goes on to (0 0 0)
+        CustomValley x = Due.of("people 3;habits 3;worth 0 1 1;");
+        due("rests()", x.rests(), 2);
+        due("restOf(13)", x.restOf(13), NONE);
+        due("comes(13, 0)", x.comes(13, 0), 1);
+        due("comes(13, 1)", x.comes(13, 1), 0);
+        due("rest(0, 2): all without a 2", x.rest(0, 2), 8);
+        due("rest(0, 2), one rest", Due.of("people 3;habits 3;keeps 1 1;").rest(0, 2), 9);
+    }
+
     static void p12ItsStatesRising() {
         promise(12, "10 + i: its STATE i, rising.");
         CustomValley rings = Due.of(RINGS);
